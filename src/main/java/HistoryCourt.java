@@ -16,6 +16,7 @@ public final class HistoryCourt {
     private static final int STRICT = 0, QUIET = 1, RULES = 3;
 
     private static final int IS_AN_ORDER = 100;
+    private static final int LONG_BITS = 64;
 
     private final Table[] tables = new Table[MOST_MACHINES];
     private int tableCount;
@@ -556,7 +557,7 @@ public final class HistoryCourt {
         }
 
         private static int lengthOf(long state) {
-            int bits = Long.SIZE - Long.numberOfLeadingZeros(state);
+            int bits = LONG_BITS - Long.numberOfLeadingZeros(state);
             return (bits + WIDTH - 1) / WIDTH;
         }
 
@@ -630,7 +631,7 @@ public final class HistoryCourt {
      * saves a search from walking the same ground for each order of the same CALLS.
      */
     private static final class Memo {
-        private static final int PLACE_BITS = 11;
+        private static final int PLACE_BITS = 10;
         private static final long SPREAD = 0x9E3779B97F4A7C15L;
         static final long UNKNOWN = -1;
 
@@ -645,7 +646,7 @@ public final class HistoryCourt {
         }
 
         private static int placeOf(long key) {
-            return (int) (key * SPREAD >>> Long.SIZE - PLACE_BITS);
+            return (int) (key * SPREAD >>> LONG_BITS - PLACE_BITS);
         }
 
         long valueOf(long key) {

@@ -173,6 +173,16 @@ public final class PromisesTest {
         DUE.is("5: FULL", x.copy(0), FULL);
         DUE.is("5: NONE ahead of FULL", x.copy(12), NONE);
         copyOfMachine();
+        copyOfSwap();
+    }
+
+    private static void copyOfSwap() {
+        HistoryCourt x = with(CELL);
+        done(x, 0, 0, 2, 0, 6, 1);
+        x.copy(0);
+        done(x, 1, 0, 0, 0, 0, 6);
+        DUE.is("5: with the same b", x.judge(1, STRICT), 1);
+        DUE.is("5: not in the other one", x.about(0, 1), 1);
     }
 
     private static void copyOfMachine() {
