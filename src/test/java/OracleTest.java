@@ -11,7 +11,7 @@ public final class OracleTest {
 
     private final Random random;
     private final Due due;
-    private final HistoryCourt court = new HistoryCourt();
+    private HistoryCourt court = new HistoryCourt();
     private final Oracle oracle;
     private final String name;
     private int taken;
@@ -93,9 +93,34 @@ public final class OracleTest {
         return c;
     }
 
+    /** A court is used for 512 calls at most, so each rule has one of its own with the same history. */
+    private void makeCourtAnew() {
+        court = new HistoryCourt();
+        if (oracle.kind == 6) {
+            court.machine();
+            for (int entry = 0; entry < 32; entry++) {
+                int state = entry / 4;
+                int act = entry % 4;
+                court.row(0, state, act, oracle.machineAnswers[state][act], oracle.machineNexts[state][act]);
+            }
+        }
+        court.history(oracle.kind, 0);
+        for (int tick = 1; tick <= oracle.ticks; tick++) {
+            for (int c : oracle.all()) {
+                Oracle.Call call = oracle.calls.get(c);
+                if (call.begun == tick) {
+                    due.is(name + " begin", court.begin(0, call.caller, call.act, call.a, call.b), c);
+                } else if (call.answered == tick) {
+                    due.is(name + " answer", court.answer(0, c, call.value), tick);
+                }
+            }
+        }
+    }
+
     private void compare() {
         int rules = 0;
         for (int rule = 0; rule < 3; rule++) {
+            makeCourtAnew();
             compareAhead(rule);
             List<List<Integer>> orders = compareOrders(rule);
             rules |= orders.isEmpty() ? 0 : 1 << rule;
@@ -110,6 +135,7 @@ public final class OracleTest {
 
     private void compareOrders() {
         for (int rule = 0; rule < 3; rule++) {
+            makeCourtAnew();
             compareFills(rule, compareOrders(rule));
         }
     }

@@ -1,82 +1,97 @@
+import java.util.ArrayList;
+import java.util.List;
 import java.util.Random;
 
-/** Calls with any numbers, in any state, never throw; and what is refused changes nothing. */
+/**
+ * Runs of calls with any numbers, in any state: none throws, and a run without its refused calls answers the
+ * same and ends in the same. Each court is used for less than 512 calls.
+ */
 public final class RefusalTest {
     private static final int[] ODD = {Integer.MIN_VALUE, Integer.MAX_VALUE, -5, -1, 4, 7, 8, 10, 12, 16, 31, 32, 64, 100};
+    private static final int RUNS = 1500, CALLS = 120;
+    private static final int KINDS_OF_CALLS = 22;
+    private static final int ALTER = 6, STATUS = 7, ANSWERED = 8, FILL = 15;
 
-    private final Random random;
-    private final HistoryCourt court = new HistoryCourt();
-
-    private RefusalTest(int seed) {
-        random = new Random(seed);
-    }
+    private static final Due DUE = new Due();
 
     public static void main(String[] args) {
-        Due due = new Due();
-        for (int seed = 0; seed < 60; seed++) {
-            RefusalTest test = new RefusalTest(seed);
-            for (int i = 0; i < 512; i++) {
-                test.step(due);
+        int refused = 0;
+        for (int seed = 0; seed < RUNS; seed++) {
+            refused += compareWithoutRefused(seed);
+        }
+        System.out.println(refused + " of " + RUNS * CALLS + " calls were refused");
+        DUE.holds("many are refused, many are not", refused > RUNS * CALLS / 5 && refused < RUNS * CALLS * 4 / 5);
+        DUE.end();
+    }
+
+    private static int compareWithoutRefused(int seed) {
+        int[][] calls = someCalls(new Random(seed));
+        HistoryCourt all = new HistoryCourt();
+        List<int[]> kept = new ArrayList<>();
+        List<Long> due = new ArrayList<>();
+        for (int[] call : calls) {
+            long got = one(all, call);
+            DUE.holds("run " + seed + ", call " + call[0] + " answers " + got, got >= -4 || answersAnyInt(call[0]));
+            if (got >= 0 || answersAnyInt(call[0])) {
+                kept.add(call);
+                due.add(got);
             }
         }
-        due.end();
-    }
-
-    private int number(int most) {
-        return random.nextInt(12) == 0 ? ODD[random.nextInt(ODD.length)] : random.nextInt(most);
-    }
-
-    private void step(Due due) {
-        long before = fingerprint();
-        int which = random.nextInt(21);
-        long got = one(which);
-        boolean isRefused = got < 0 && got >= -4 && which != 6 && which != 8 && which != 15;
-        if (isRefused) {
-            due.is("what is seen after a refused call " + which, fingerprint(), before);
+        HistoryCourt fewer = new HistoryCourt();
+        for (int i = 0; i < kept.size(); i++) {
+            DUE.is("run " + seed + " without refused calls, call " + kept.get(i)[0], one(fewer, kept.get(i)), due.get(i));
         }
-        due.holds("call " + which + " answers " + got, got >= -4 || which == 6 || which == 8 || which == 15);
+        DUE.holds("run " + seed + " without refused calls ends in the same", View.of(all).equals(View.of(fewer)));
+        return calls.length - kept.size();
     }
 
-    private long one(int which) {
-        switch (which) {
-            case 0: return court.machine();
-            case 1: return court.row(number(4), number(8), number(4), number(3), number(8));
-            case 2: return court.history(number(7), random.nextInt(3) == 0 ? number(4) : 0);
-            case 3: return random.nextInt(4) == 0 ? court.copy(number(12)) : court.say(number(10));
-            case 4: return court.begin(number(12), number(4), number(3), number(4), number(5));
-            case 5: return court.answer(number(12), number(10), number(3));
-            case 6: return court.alter(number(12), number(10), number(3));
-            case 7: return court.status();
-            case 8: return court.answered(number(12), number(10));
-            case 9: return court.call(number(12), number(10), number(4));
-            case 10: return court.about(number(12), number(4));
-            case 11: return court.ahead(number(12), number(3), number(10), number(10));
-            case 12: return court.judge(number(12), number(3));
-            case 13: return court.first(number(12), number(3), number(10));
-            case 14: return court.orders(number(12), number(3));
-            case 15: return court.fill(number(10));
-            case 16: return court.least(number(12), number(3)) + (long) court.part(number(10)) * 0;
-            case 17: return court.fills(number(12), number(3), number(10));
-            case 18: return court.apart(number(12), number(3), number(4));
-            case 19: return court.rules(number(12));
-            default: return court.check(number(12), number(3));
-        }
+    /** Of these a refusal is told by status(), which it changes. */
+    private static boolean answersAnyInt(int which) {
+        return which == ALTER || which == STATUS || which == ANSWERED || which == FILL;
     }
 
-    /** All that can be seen without changing it. */
-    private long fingerprint() {
-        long print = court.status();
-        for (int i = 0; i < 10; i++) {
-            print = print * 31 + court.part(i);
-        }
-        for (int h = 0; h < 12; h++) {
-            for (int what = 0; what < 4; what++) {
-                print = print * 31 + court.about(h, what);
-                for (int c = 0; c < 10; c++) {
-                    print = print * 31 + court.call(h, c, what);
-                }
+    private static int[][] someCalls(Random random) {
+        int[][] calls = new int[CALLS][6];
+        for (int[] call : calls) {
+            call[0] = random.nextInt(KINDS_OF_CALLS);
+            int most = random.nextInt(4) == 0 ? 12 : 4;
+            for (int i = 1; i < 6; i++) {
+                call[i] = random.nextInt(16) == 0 ? ODD[random.nextInt(ODD.length)] : random.nextInt(most);
+            }
+            if (call[0] == 2 && random.nextInt(3) != 0) {
+                call[2] = 0;
+            }
+            if (random.nextInt(3) == 0) {
+                call[0] = 4 + random.nextInt(2);
             }
         }
-        return print;
+        return calls;
+    }
+
+    private static long one(HistoryCourt x, int[] n) {
+        switch (n[0]) {
+            case 0: return x.machine();
+            case 1: return x.row(n[1], n[2], n[3], n[4], n[5]);
+            case 2: return x.history(n[1] + n[3], n[2]);
+            case 3: return x.say(n[1]);
+            case 4: return x.begin(n[1], n[2], n[3], n[4], n[5]);
+            case 5: return x.answer(n[1], n[2], n[3]);
+            case ALTER: return x.alter(n[1], n[2], n[3]);
+            case STATUS: return x.status();
+            case ANSWERED: return x.answered(n[1], n[2]);
+            case 9: return x.call(n[1], n[2], n[3]);
+            case 10: return x.about(n[1], n[2]);
+            case 11: return x.ahead(n[1], n[2], n[3], n[4]);
+            case 12: return x.judge(n[1], n[2]);
+            case 13: return x.first(n[1], n[2], n[3]);
+            case 14: return x.orders(n[1], n[2]);
+            case FILL: return x.fill(n[1]);
+            case 16: return x.least(n[1], n[2]);
+            case 17: return x.fills(n[1], n[2], n[3]);
+            case 18: return x.apart(n[1], n[2], n[3]);
+            case 19: return x.rules(n[1]);
+            case 20: return x.check(n[1], n[2]);
+            default: return n[2] == 0 ? x.copy(n[1]) : x.part(n[1]);
+        }
     }
 }
