@@ -37,6 +37,8 @@ public final class HistoriesTest {
         leastLeavesOutOpenOnes();
         leastFromTheLeastNumberOn();
         leastGoesRoundAgain();
+        leastGoesRoundTillNoneCan();
+        leastGoesOnBehindOneLeftOut();
         leastKeepsNumbersAndTicks();
         partCountsAloneForQuiet();
         apartCountsAloneForQuiet();
@@ -416,15 +418,56 @@ public final class HistoriesTest {
         }
     }
 
-    /** Without CALL 1 what is left is TAKEN, till CALL 2 is left out: it goes in the second round. */
+    /** Without CALL 0 what is left is TAKEN, till CALL 1 is left out: it goes in the second round. */
     private static void leastGoesRoundAgain() {
         HistoryCourt x = Bench.with(Bench.COUNTER);
+        Bench.done(x, 0, 0, 1, 5, 0, 5);
         Bench.done(x, 0, 0, 1, 1, 0, 1);
-        Bench.done(x, 0, 0, 1, 1, 0, 3);
-        Bench.done(x, 0, 0, 1, 2, 0, 3);
+        Bench.done(x, 0, 0, READ, 0, 0, 1);
         for (int rule = 0; rule < 3; rule++) {
             DUE.is("LEAST PART: a second round", x.least(0, rule), 1);
             DUE.is("LEAST PART: a second round", x.part(0), 2);
+        }
+    }
+
+    /**
+     * A MACHINE whose state has a bit for each of the ACTS 0, 1, 2 that came; CALLS 0, 1, 2 are those. CALL 3 is of
+     * ACT 3 and was answered with 1, as it is in some states alone.
+     */
+    private static HistoryCourt explainedIn(int... states) {
+        HistoryCourt x = Bench.withMachines(1);
+        for (int state = 0; state < 8; state++) {
+            for (int act = 0; act < 3; act++) {
+                x.row(0, state, act, 0, state | 1 << act);
+            }
+            x.row(0, state, 3, 0, state);
+        }
+        for (int state : states) {
+            x.row(0, state, 3, 1, state);
+        }
+        x.history(Bench.MACHINE, 0);
+        for (int act = 0; act < 4; act++) {
+            Bench.done(x, 0, 0, act, 0, 0, act == 3 ? 1 : 0);
+        }
+        return x;
+    }
+
+    /** CALL 2 can be left out, then CALL 1, then CALL 0: each in a round of its own. */
+    private static void leastGoesRoundTillNoneCan() {
+        HistoryCourt x = explainedIn(2, 5, 6);
+        for (int rule = 0; rule < 3; rule++) {
+            DUE.is("LEAST PART: three rounds", x.least(0, rule), 1);
+            DUE.is("LEAST PART: three rounds", x.part(0), 3);
+        }
+    }
+
+    /** Behind CALL 1, which is left out, CALL 2 comes, not CALL 0 again: then CALL 0 can not be left out. */
+    private static void leastGoesOnBehindOneLeftOut() {
+        HistoryCourt x = explainedIn(0, 6);
+        for (int rule = 0; rule < 3; rule++) {
+            DUE.is("LEAST PART: one round to its end", x.least(0, rule), 2);
+            DUE.is("LEAST PART: CALL 0 is left", x.part(0), 0);
+            DUE.is("LEAST PART: CALL 3 is left", x.part(1), 3);
         }
     }
 

@@ -492,12 +492,12 @@ public final class PromisesTest {
         DUE.is("18: 1", z.part(1), 2);
     }
 
-    /** Without CALL 1 what is left is TAKEN till CALL 2 is left out: so CALL 1 goes in a second round. */
+    /** Without CALL 0 what is left is TAKEN till CALL 1 is left out: so CALL 0 goes in a second round. */
     private static void leastGoesRoundAgain() {
         HistoryCourt x = with(COUNTER);
+        done(x, 0, 0, 1, 5, 0, 5);
         done(x, 0, 0, 1, 1, 0, 1);
-        done(x, 0, 0, 1, 1, 0, 3);
-        done(x, 0, 0, 1, 2, 0, 3);
+        done(x, 0, 0, 0, 0, 0, 1);
         DUE.is("17: two rounds", x.least(0, STRICT), 1);
         DUE.is("18: two rounds", x.part(0), 2);
     }
