@@ -8,7 +8,7 @@ import java.util.Random;
  */
 public final class RefusalTest {
     private static final int[] ODD = {Integer.MIN_VALUE, Integer.MAX_VALUE, -5, -1, 4, 7, 8, 10, 12, 16, 31, 32, 64, 100};
-    private static final int RUNS = 1500, CALLS = 120;
+    private static final int RUNS = 1500, CALLS = 160;
     private static final int KINDS_OF_CALLS = 22;
     private static final int ALTER = 6, STATUS = 7, ANSWERED = 8, FILL = 15;
 
@@ -50,22 +50,31 @@ public final class RefusalTest {
         return which == ALTER || which == STATUS || which == ANSWERED || which == FILL;
     }
 
+    /** At first a MACHINE and some HISTORIES, so that less is refused later. */
     private static int[][] someCalls(Random random) {
         int[][] calls = new int[CALLS][6];
-        for (int[] call : calls) {
-            call[0] = random.nextInt(KINDS_OF_CALLS);
-            int most = random.nextInt(4) == 0 ? 12 : 4;
-            for (int i = 1; i < 6; i++) {
-                call[i] = random.nextInt(16) == 0 ? ODD[random.nextInt(ODD.length)] : random.nextInt(most);
-            }
-            if (call[0] == 2 && random.nextInt(3) != 0) {
-                call[2] = 0;
-            }
-            if (random.nextInt(3) == 0) {
-                call[0] = 4 + random.nextInt(2);
-            }
+        calls[0] = new int[] {0, 0, 0, 0, 0, 0};
+        for (int i = 1; i < 4; i++) {
+            calls[i] = new int[] {2, random.nextInt(7), 0, 0, 0, 0};
+        }
+        for (int i = 4; i < CALLS; i++) {
+            fillIn(random, calls[i]);
         }
         return calls;
+    }
+
+    private static void fillIn(Random random, int[] call) {
+        call[0] = random.nextInt(KINDS_OF_CALLS);
+        int most = random.nextInt(4) == 0 ? 12 : 4;
+        for (int i = 1; i < 6; i++) {
+            call[i] = random.nextInt(16) == 0 ? ODD[random.nextInt(ODD.length)] : random.nextInt(most);
+        }
+        if (call[0] == 2 && random.nextInt(3) != 0) {
+            call[2] = 0;
+        }
+        if (random.nextInt(3) == 0) {
+            call[0] = 4 + random.nextInt(2);
+        }
     }
 
     private static long one(HistoryCourt x, int[] n) {
